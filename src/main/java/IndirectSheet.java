@@ -25,7 +25,7 @@ public final class IndirectSheet {
     private final int[] firsts = new int[CELLS];
     private final int[] seconds = new int[CELLS];
 
-    // The value of a cell that is no NUMBER is kept at 0: it then never differs from itself.
+    // The value of a cell that is no NUMBER is kept at 0, so that two of one state never differ in it.
     private final int[] states = new int[CELLS];
     private final int[] values = new int[CELLS];
     private final int[] statesBefore = new int[CELLS];
@@ -249,7 +249,7 @@ public final class IndirectSheet {
         if (states[a] != NUMBER) {
             return NONE;
         }
-        // As an int the sum could wrap round into the sheet.
+        // The sum is meant as a whole number: a long holds it without wrapping.
         long target = (long) values[a] + seconds[cell];
         return target >= 0 && target < CELLS ? (int) target : NONE;
     }

@@ -400,7 +400,18 @@ public final class PromisesTest {
         dueOther(x, 0, REF_ERROR);
         x.formula(0, SUM, 6, 4);
         dueOther(x, 0, DIV_ERROR);
+        // cell 0 is a cell like any other
+        x = new IndirectSheet();
+        x.formula(0, DIV, 1, 1);
+        x.formula(2, SUM, 1, 0);
+        x.formula(3, ADD, 1, 0);
+        x.formula(4, THROUGH, 1, 0);
+        dueOther(x, 2, DIV_ERROR);
+        dueOther(x, 3, DIV_ERROR);
+        dueOther(x, 4, DIV_ERROR);
         // passed on along a chain
+        x.formula(5, DIV, 1, 1);
+        x.formula(15, LOST, 0, 0);
         x.formula(6, ADD, 5, 1);
         x.formula(7, THROUGH, 6, 3);
         x.formula(8, WHEN, 7, 15);
@@ -597,6 +608,10 @@ public final class PromisesTest {
         dueNumber(x, 0, 32768);
         x.formula(15, ISERR, 0, 0);
         due("circular() of a ring", x.circular(), 65535);
+        x.formula(15, LOST, 0, 0);
+        due("circular() of a chain of formulas alone", x.circular(), 0);
+        due("count(REF_ERROR)", x.count(REF_ERROR), 16);
+        x.formula(15, ISERR, 0, 0);
         x.put(7, 1);
         due("circular() of the broken ring", x.circular(), 0);
 
@@ -687,9 +702,13 @@ public final class PromisesTest {
         for (int from = 0; from < 2; from++) {
             x = new IndirectSheet();
             for (int cell = 0; cell < 15; cell++) {
-                x.formula(from == 0 ? cell + 1 : cell, ADD, from == 0 ? cell : cell + 1, 15 * from);
+                x.formula(cell + 1 - from, ISERR, cell + from, 0);
             }
             due("reached along a chain", x.reached(15 * from), from == 0 ? 65534 : 32767);
+        }
+        x.formula(15, ISERR, 0, 0);
+        for (int cell = 0; cell < 16; cell++) {
+            due("reached(" + cell + ") round the whole ring", x.reached(cell), 65535);
         }
         for (int bad : NO_CELLS) {
             due("reached(" + bad + ")", x.reached(bad), 0);
@@ -732,6 +751,12 @@ public final class PromisesTest {
         due("changed()", x.changed(), bits(15));
         x.put(15, 5);
         due("changed() by the same put", x.changed(), 0);
+        x = new IndirectSheet();
+        for (int cell = 1; cell < 16; cell++) {
+            x.formula(cell, ADD, 0, 0);
+        }
+        x.put(0, 5);
+        due("changed() of all cells", x.changed(), 65535);
     }
 
     private static void changedKeepsOnRefusal() {
