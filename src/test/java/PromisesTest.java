@@ -1,99 +1,10 @@
 /** The promises of the document one by one: ordinary inputs, the edges that it names, and wrong inputs. */
-public final class PromisesTest {
-    private static final int ADD = 0, SUB = 1, MUL = 2, DIV = 3, THROUGH = 4, SUM = 5, ISERR = 6, WHEN = 7, LOST = 8;
-    private static final int NUMBER = 0, DIV_ERROR = 1, REF_ERROR = 2, CIRCULAR = 3, NONE = -1;
-    private static final int LEAST = Integer.MIN_VALUE, GREATEST = Integer.MAX_VALUE;
-    private static final int[] NO_CELLS = {-1, 16, 17, 32, LEAST, GREATEST};
-
-    private static int wrong = 0;
-    private static String about = "";
-
+public final class PromisesTest extends Checks {
     public static void main(String[] args) {
-        constants();
-        newObject();
-        put();
-        formulaAccepts();
-        formulaRefuses();
-        arithmetic();
-        division();
-        through();
-        throughDoesNotWrap();
-        sum();
-        isErr();
-        when();
-        errorsInOrder();
-        strictBeforeErrors();
-        copyConstantsAndFormulas();
-        copyKeepsWhatIsNoCell();
-        copyLoses();
-        copyRefuses();
-        operation();
-        operand();
-        state();
-        value();
-        circular();
-        needs();
-        reached();
-        changed();
-        changedKeepsOnRefusal();
-        count();
-        objectsAreApart();
-        System.out.println(wrong == 0 ? "all answers are as due" : wrong + " answers are not as due");
-        if (wrong != 0) {
-            System.exit(1);
-        }
+        runAll(PromisesTest.class);
     }
 
-    private static void due(String call, long got, long want) {
-        if (got != want) {
-            wrong++;
-            System.out.println(about + ": " + call + " answered " + got + ", due is " + want);
-        }
-    }
-
-    private static void due(String call, boolean got, boolean want) {
-        due(call, got ? 1 : 0, want ? 1 : 0);
-    }
-
-    private static void dueNumber(IndirectSheet x, int cell, int want) {
-        due("state(" + cell + ")", x.state(cell), NUMBER);
-        due("value(" + cell + ")", x.value(cell), want);
-    }
-
-    private static void dueOther(IndirectSheet x, int cell, int want) {
-        due("state(" + cell + ")", x.state(cell), want);
-        due("value(" + cell + ")", x.value(cell), 0);
-    }
-
-    private static void dueFormula(IndirectSheet x, int cell, int op, int a, int b) {
-        due("operation(" + cell + ")", x.operation(cell), op);
-        due("operand(" + cell + ", 0)", x.operand(cell, 0), a);
-        due("operand(" + cell + ", 1)", x.operand(cell, 1), b);
-    }
-
-    private static void dueConstant(IndirectSheet x, int cell, int want) {
-        dueFormula(x, cell, NONE, NONE, NONE);
-        dueNumber(x, cell, want);
-    }
-
-    private static int bits(int... cells) {
-        int mask = 0;
-        for (int cell : cells) {
-            mask |= 1 << cell;
-        }
-        return mask;
-    }
-
-    /** A sheet whose cell 14 is DIV_ERROR, 15 REF_ERROR and 13 CIRCULAR; the others are the constant 0. */
-    private static IndirectSheet sheetWithErrors() {
-        IndirectSheet x = new IndirectSheet();
-        x.formula(13, ADD, 13, 13);
-        x.formula(14, DIV, 12, 12);
-        x.formula(15, LOST, 0, 0);
-        return x;
-    }
-
-    private static void constants() {
+    static void constants() {
         about = "constants";
         due("NUMBER", IndirectSheet.NUMBER, 0);
         due("DIV_ERROR", IndirectSheet.DIV_ERROR, 1);
@@ -102,7 +13,7 @@ public final class PromisesTest {
         due("NONE", IndirectSheet.NONE, -1);
     }
 
-    private static void newObject() {
+    static void newObject() {
         about = "promise 1, a new object";
         IndirectSheet x = new IndirectSheet();
         for (int cell = 0; cell < 16; cell++) {
@@ -115,7 +26,7 @@ public final class PromisesTest {
         due("count(0)", x.count(NUMBER), 16);
     }
 
-    private static void put() {
+    static void put() {
         about = "promise 2, put";
         int[] constants = {0, 1, -1, 7, LEAST, GREATEST};
         IndirectSheet x = new IndirectSheet();
@@ -136,11 +47,10 @@ public final class PromisesTest {
         dueConstant(x, 15, GREATEST);
     }
 
-    private static void formulaAccepts() {
+    static void formulaAccepts() {
         about = "promise 3, formula that is taken";
         IndirectSheet x = new IndirectSheet();
-        int[] twoCells = {ADD, SUB, MUL, DIV, SUM, WHEN};
-        for (int op : twoCells) {
+        for (int op : TWO_CELLS) {
             due("formula(1, " + op + ", 0, 15)", x.formula(1, op, 0, 15), true);
             dueFormula(x, 1, op, 0, 15);
             due("formula(1, " + op + ", 15, 0)", x.formula(1, op, 15, 0), true);
@@ -160,7 +70,7 @@ public final class PromisesTest {
         dueFormula(x, 3, LOST, 0, 0);
     }
 
-    private static void formulaRefuses() {
+    static void formulaRefuses() {
         about = "promise 3, formula that is refused";
         IndirectSheet x = new IndirectSheet();
         x.put(4, 44);
@@ -184,7 +94,7 @@ public final class PromisesTest {
         due("count(0)", x.count(NUMBER), 16);
     }
 
-    private static void arithmetic() {
+    static void arithmetic() {
         about = "terms, ADD SUB MUL";
         int[][] rows = {
             // value of a, value of b, ADD, SUB, MUL
@@ -213,7 +123,7 @@ public final class PromisesTest {
         dueNumber(x, 0, 36);
     }
 
-    private static void division() {
+    static void division() {
         about = "terms, DIV";
         int[][] rows = {
             {7, 2, 3}, {-7, 2, -3}, {7, -2, -3}, {-7, -2, 3}, {0, 5, 0}, {1, 2, 0},
@@ -231,7 +141,7 @@ public final class PromisesTest {
         dueOther(x, 2, DIV_ERROR);
     }
 
-    private static void through() {
+    static void through() {
         about = "terms, THROUGH";
         IndirectSheet x = new IndirectSheet();
         for (int cell = 2; cell < 16; cell++) {
@@ -283,7 +193,7 @@ public final class PromisesTest {
         dueNumber(x, 0, 9);
     }
 
-    private static void throughDoesNotWrap() {
+    static void throughDoesNotWrap() {
         about = "terms, THROUGH takes the sum as a whole number";
         IndirectSheet x = new IndirectSheet();
         x.formula(1, THROUGH, 0, 15);
@@ -304,7 +214,7 @@ public final class PromisesTest {
         dueOther(x, 1, REF_ERROR);
     }
 
-    private static void sum() {
+    static void sum() {
         about = "terms, SUM";
         IndirectSheet x = new IndirectSheet();
         for (int cell = 0; cell < 15; cell++) {
@@ -329,7 +239,7 @@ public final class PromisesTest {
         dueNumber(x, 0, -2);
     }
 
-    private static void isErr() {
+    static void isErr() {
         about = "terms, ISERR";
         IndirectSheet x = sheetWithErrors();
         x.put(1, 5);
@@ -351,7 +261,7 @@ public final class PromisesTest {
         dueNumber(x, 0, 0);
     }
 
-    private static void when() {
+    static void when() {
         about = "terms, WHEN";
         IndirectSheet x = sheetWithErrors();
         x.put(1, 42);
@@ -373,10 +283,9 @@ public final class PromisesTest {
         dueOther(x, 2, CIRCULAR);
     }
 
-    private static void errorsInOrder() {
+    static void errorsInOrder() {
         about = "terms, errors";
-        int[] twoCells = {ADD, SUB, MUL, DIV, WHEN};
-        for (int op : twoCells) {
+        for (int op : A_AND_B) {
             IndirectSheet x = sheetWithErrors();
             x.put(0, 1);
             int[][] rows = {
@@ -418,10 +327,9 @@ public final class PromisesTest {
         dueOther(x, 8, DIV_ERROR);
     }
 
-    private static void strictBeforeErrors() {
+    static void strictBeforeErrors() {
         about = "terms, a needed cell that is CIRCULAR outdoes an error";
-        int[] twoCells = {ADD, SUB, MUL, DIV, WHEN, SUM};
-        for (int op : twoCells) {
+        for (int op : TWO_CELLS) {
             IndirectSheet x = sheetWithErrors();
             x.formula(2, op, 14, 13);
             dueOther(x, 2, CIRCULAR);
@@ -430,7 +338,7 @@ public final class PromisesTest {
         }
     }
 
-    private static void copyConstantsAndFormulas() {
+    static void copyConstantsAndFormulas() {
         about = "promise 4, copy";
         IndirectSheet x = new IndirectSheet();
         x.put(3, LEAST);
@@ -439,8 +347,7 @@ public final class PromisesTest {
         x.put(3, 14);
         due("copy(3, 15)", x.copy(3, 15), true);
         dueConstant(x, 15, 14);
-        int[] twoCells = {ADD, SUB, MUL, DIV, SUM, WHEN};
-        for (int op : twoCells) {
+        for (int op : TWO_CELLS) {
             x.formula(7, op, 4, 6);
             due("copy(7, 15)", x.copy(7, 15), true);
             dueFormula(x, 15, op, 12, 14);
@@ -462,7 +369,7 @@ public final class PromisesTest {
         dueFormula(x, 1, SUM, 1, 0);
     }
 
-    private static void copyKeepsWhatIsNoCell() {
+    static void copyKeepsWhatIsNoCell() {
         about = "promise 4, copy of numbers that are no cells";
         IndirectSheet x = new IndirectSheet();
         x.formula(0, THROUGH, 1, 15);
@@ -484,10 +391,9 @@ public final class PromisesTest {
         dueOther(x, 15, REF_ERROR);
     }
 
-    private static void copyLoses() {
+    static void copyLoses() {
         about = "promise 4, copy that loses a cell";
-        int[] twoCells = {ADD, SUB, MUL, DIV, SUM, WHEN};
-        for (int op : twoCells) {
+        for (int op : TWO_CELLS) {
             IndirectSheet x = new IndirectSheet();
             int[][] rows = {{3, 9, 4}, {9, 3, 4}, {12, 9, 12}, {9, 12, 12}};
             for (int[] row : rows) {
@@ -507,7 +413,7 @@ public final class PromisesTest {
         dueFormula(x, 9, LOST, 0, 0);
     }
 
-    private static void copyRefuses() {
+    static void copyRefuses() {
         about = "promise 4, copy that is refused";
         IndirectSheet x = new IndirectSheet();
         x.put(0, 3);
@@ -523,7 +429,7 @@ public final class PromisesTest {
         dueNumber(x, 15, 6);
     }
 
-    private static void operation() {
+    static void operation() {
         about = "promise 5, operation";
         IndirectSheet x = new IndirectSheet();
         for (int op = ADD; op <= LOST; op++) {
@@ -537,7 +443,7 @@ public final class PromisesTest {
         }
     }
 
-    private static void operand() {
+    static void operand() {
         about = "promise 6, operand";
         IndirectSheet x = new IndirectSheet();
         x.formula(4, SUM, 9, 2);
@@ -563,7 +469,7 @@ public final class PromisesTest {
         due("operand(4, 1)", x.operand(4, 1), NONE);
     }
 
-    private static void state() {
+    static void state() {
         about = "promise 7, state";
         IndirectSheet x = sheetWithErrors();
         due("state(0)", x.state(0), NUMBER);
@@ -575,7 +481,7 @@ public final class PromisesTest {
         }
     }
 
-    private static void value() {
+    static void value() {
         about = "promise 8, value";
         IndirectSheet x = sheetWithErrors();
         for (int cell = 13; cell < 16; cell++) {
@@ -597,7 +503,7 @@ public final class PromisesTest {
         }
     }
 
-    private static void circular() {
+    static void circular() {
         about = "promise 9, circular";
         IndirectSheet x = new IndirectSheet();
         for (int cell = 0; cell < 15; cell++) {
@@ -632,11 +538,10 @@ public final class PromisesTest {
         due("circular()", x.circular(), 0);
     }
 
-    private static void needs() {
+    static void needs() {
         about = "promise 10, needs";
         IndirectSheet x = sheetWithErrors();
-        int[] twoCells = {ADD, SUB, MUL, DIV, WHEN};
-        for (int op : twoCells) {
+        for (int op : A_AND_B) {
             x.formula(1, op, 9, 4);
             due("needs(1)", x.needs(1), bits(4, 9));
             x.formula(1, op, 1, 15);
@@ -671,7 +576,7 @@ public final class PromisesTest {
         }
     }
 
-    private static void reached() {
+    static void reached() {
         about = "promise 11, reached";
         IndirectSheet x = new IndirectSheet();
         x.formula(1, ADD, 0, 0);
@@ -715,7 +620,7 @@ public final class PromisesTest {
         }
     }
 
-    private static void changed() {
+    static void changed() {
         about = "promise 12, changed";
         IndirectSheet x = new IndirectSheet();
         x.put(3, 0);
@@ -759,7 +664,7 @@ public final class PromisesTest {
         due("changed() of all cells", x.changed(), 65535);
     }
 
-    private static void changedKeepsOnRefusal() {
+    static void changedKeepsOnRefusal() {
         about = "promise 12, changed after calls that answer false";
         IndirectSheet x = new IndirectSheet();
         x.put(16, 1);
@@ -773,7 +678,7 @@ public final class PromisesTest {
         due("changed()", x.changed(), bits(6));
     }
 
-    private static void count() {
+    static void count() {
         about = "promise 13, count";
         IndirectSheet x = sheetWithErrors();
         x.formula(0, ADD, 15, 15);
@@ -790,7 +695,7 @@ public final class PromisesTest {
         }
     }
 
-    private static void objectsAreApart() {
+    static void objectsAreApart() {
         about = "two objects";
         IndirectSheet x = new IndirectSheet();
         IndirectSheet y = new IndirectSheet();
